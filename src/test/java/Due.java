@@ -27,6 +27,13 @@ final class Due {
         is(what, so ? 1 : 0, 1);
     }
 
+    /** Ends the program with code 1 if an answer was not the one due. */
+    void endIfWrong() {
+        if (wrong != 0) {
+            end();
+        }
+    }
+
     /** Prints how it went, and ends the program with code 1 if an answer was not the one due. */
     void end() {
         System.out.println(test + ": " + right + " answers as due, " + wrong + " not");
