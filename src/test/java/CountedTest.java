@@ -142,6 +142,9 @@ public final class CountedTest {
         odds(Beach.with("f;p011;p013;p012"), -1, 1, 2);
         odds(Beach.with("f" + ";p012".repeat(4)), -1, 5, 16);
         odds(Beach.with("f" + ";s090".repeat(8)), -1, 93, 256);
+        ChairBallot eight = Beach.with("f" + ";s090".repeat(8));
+        eight.rain();
+        odds(eight, -1, 0, 1);
         ChairBallot x = Beach.with(THREE);
         odds(x, -1, 1, 2);
         due.is("nothing is changed", Beach.looks(x), 132);

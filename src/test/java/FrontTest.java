@@ -139,6 +139,12 @@ public final class FrontTest {
         due.is("nothing is changed: folded", x.many(1), 3);
         due.is("nothing is changed: readings", x.many(3), 1);
         due.is("nothing is changed: weight", x.ofChair(0, 2), 5);
+        Beach.front(x, "f;p010;p020;p033;p040");
+        due.is("a smaller front", Beach.front(x, "f;p010;p021"), 2);
+        due.is("it meets none of those who were", x.ofChair(1, 6), 0);
+        due.is("votes of those who are", x.many(2), 3);
+        due.is("no power by those who were", x.power(0, 0), 1);
+        Beach.front(x, THREE);
         x.put(1, 1, 0);
         due.is("what comes to the sheet does not come to chairs", x.ofChair(0, 0), 0);
     }

@@ -336,6 +336,8 @@ public final class SheetsTest {
         counted(x, 5, 3, 9, 1);
         x.load(2, 1);
         counted(x, 5, 3, 7, 1);
+        counted(Beach.with("f;p010;p120;p230;p340"), 4, 0, 10, 0);
+        counted(Beach.with("f" + ";s090".repeat(8)), 8, 0, 80, 0);
         due.is("many(-1)", x.many(-1), OUTSIDE);
         due.is("many(4)", x.many(4), OUTSIDE);
     }
