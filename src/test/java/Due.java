@@ -23,6 +23,11 @@ final class Due {
         }
     }
 
+    void same(String what, String got, String want) {
+        boolean alike = got.equals(want);
+        isTrue(alike ? what : what + ": " + got + " for " + want, alike);
+    }
+
     void isTrue(String what, boolean so) {
         is(what, so ? 1 : 0, 1);
     }
