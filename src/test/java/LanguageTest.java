@@ -9,7 +9,9 @@ import java.util.ArrayList;
 import java.util.Arrays;
 import java.util.HashSet;
 import java.util.List;
+import java.util.Map;
 import java.util.Set;
+import java.util.TreeMap;
 import java.util.TreeSet;
 import java.util.regex.Matcher;
 import java.util.regex.Pattern;
@@ -152,14 +154,28 @@ public final class LanguageTest {
     }
 
     private void lengthsOfMethods(String code) {
-        Matcher heads = Pattern.compile("(?m)^( {4}| {8})(?! )[^=;\n]*\\([^;\n]*\\) \\{$").matcher(code);
-        int methods = 0;
+        Map<String, String> bodies = new TreeMap<>();
+        Matcher heads = Pattern.compile("(?m)^( {4}| {8})(?! )[^=;\n(]*?(\\w+)\\([^;\n]*\\) \\{$").matcher(code);
         while (heads.find()) {
             String end = "\n" + heads.group(1) + "}";
             String body = code.substring(heads.start(), code.indexOf(end, heads.start()));
             due.isTrue("some sixty lines at most: " + heads.group().trim(), body.lines().count() <= 60);
-            methods++;
+            due.isTrue("a name of its own: " + heads.group(2), bodies.put(heads.group(2), body) == null);
         }
-        due.isTrue("methods are found: " + methods, methods >= CALLS.length);
+        due.isTrue("methods are found: " + bodies.size(), bodies.size() > CALLS.length);
+        for (String name : bodies.keySet()) {
+            due.isTrue("at most eight deep: " + name, depth(bodies, name, 0) <= 8);
+        }
+    }
+
+    /** How deep the calls of a method go, itself counted; there is no recursion in the class. */
+    private static int depth(Map<String, String> bodies, String name, int above) {
+        int deepest = 0;
+        Matcher calls = Pattern.compile("(?<!new )\\b(\\w+)\\(").matcher(bodies.get(name));
+        while (above < 20 && calls.find()) {
+            boolean isOwn = bodies.containsKey(calls.group(1)) && !calls.group(1).equals(name);
+            deepest = isOwn ? Math.max(deepest, depth(bodies, calls.group(1), above + 1)) : deepest;
+        }
+        return deepest + 1;
     }
 }

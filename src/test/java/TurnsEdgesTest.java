@@ -351,7 +351,11 @@ public final class TurnsEdgesTest {
         pair(OUTSIDE, 0, 8, 0, 0, 1, 8);
         edges.on(() -> told(0, 9, 0, 10));
         edges.refuses("pairs behind the last one told", -100, x -> x.day(2, 2, 0, 1, 0));
-        edges.refuses("pairs ahead of the first one told", OUTSIDE, x -> x.day(2, 2, 2, 1, 0));
+        edges.refuses("the pair behind it, told alone", OUTSIDE, x -> x.day(2, 2, 2, 1, 0));
+        edges.on(() -> told(0, 10, 0, 2, 4, 0));
+        edges.refuses("pairs on both sides of the one told", 8, x -> x.day(2, 2, 2, 1, 2));
+        edges.refuses("the pair ahead of it, too", OUTSIDE, x -> x.day(2, 2, 0, 2, 2));
+        edges.refuses("the pair behind it, too", UNKNOWN, x -> x.day(2, 2, 2, 2, 2));
     }
 
     private void daysOfNoPairs() {

@@ -112,22 +112,21 @@ public final class TurnsTest {
 
     private void daysWithoutWrong() {
         due.promise("11 day");
-        ChairBallot x = Beach.with(THREE);
-        told(x, new int[] {}, 9, NONE, 3, 0, 0, 1, 3, 2, NONE);
-        told(x, new int[] {0, 0}, 5, NONE, 3, 0, 1, 0, 3, 2, NONE);
-        told(x, new int[] {0, 2}, 0, NONE, 8, 0, 0, 2, 3, 2, NONE);
-        told(x, new int[] {0, 2, 2, 0, 1, 0, 0, 1, 0, 3}, 7, NONE, 0, 0, 3, 3, 0, 0, NONE);
-        told(x, new int[] {5, 4}, 4, NONE, 3, 0, 1, 1, 0, 2, NONE);
-        told(x, new int[] {0, 7, 10, 4}, 12, NONE, 0, 0, 2, 0, 0, 0, NONE);
-        told(x, new int[] {4, 5, 6, 6, 10, 7}, 0, NONE, 0, 0, 0, 3, 3, 3, NONE);
-        told(x, new int[] {0, 8, 10, 4}, 0, NONE, 0, 7, 0, 1, 3, 2, NONE);
-        told(x, new int[] {0, 8, 0, 8, 1, 9, 0, 9}, 9, NONE, 0, 4, 1, 1, 3, 2, NONE);
-        told(x, new int[] {0, 8, 1, 9, 1, 0, 0, 8}, 0, NONE, 0, 7, 1, 1, 0, 2, NONE);
+        told(Beach.with(THREE), new int[] {}, 9, NONE, 3, 0, 0, 1, 3, 2, NONE);
+        told(Beach.with(THREE), new int[] {0, 0}, 5, NONE, 3, 0, 1, 0, 3, 2, NONE);
+        told(Beach.with(THREE), new int[] {0, 2}, 0, NONE, 8, 0, 0, 2, 3, 2, NONE);
+        told(Beach.with(THREE), new int[] {0, 2, 2, 0, 1, 0, 0, 1, 0, 3}, 7, NONE, 0, 0, 3, 3, 0, 0, NONE);
+        told(Beach.with(THREE), new int[] {5, 4}, 4, NONE, 3, 0, 1, 1, 0, 2, NONE);
+        told(Beach.with(THREE), new int[] {0, 7, 10, 4}, 12, NONE, 0, 0, 2, 0, 0, 0, NONE);
+        told(Beach.with(THREE), new int[] {4, 5, 6, 6, 10, 7}, 0, NONE, 0, 0, 0, 3, 3, 3, NONE);
+        told(Beach.with(THREE), new int[] {0, 8, 10, 4}, 0, NONE, 0, 7, 0, 1, 3, 2, NONE);
+        told(Beach.with(THREE), new int[] {0, 8, 0, 8, 1, 9, 0, 9}, 9, NONE, 0, 4, 1, 1, 3, 2, NONE);
+        told(Beach.with(THREE), new int[] {0, 8, 1, 9, 1, 0, 0, 8}, 0, NONE, 0, 7, 1, 1, 0, 2, NONE);
         int[] long20 = new int[40];
         for (int pair = 0; pair < 20; pair++) {
             long20[2 * pair + 1] = pair % 2 == 0 ? 2 : 0;
         }
-        told(x, long20, 5, NONE, 3, 0, 10, 0, 3, 2, NONE);
+        told(Beach.with(THREE), long20, 5, NONE, 3, 0, 10, 0, 3, 2, NONE);
         ChairBallot y = Beach.with("f" + ";s090".repeat(8));
         for (int k = 0; k < 8; k++) {
             due.is("day of chair " + k, Beach.day(y, 10 + k, 7, 3), k == 7 ? 3 : 0);
@@ -150,13 +149,13 @@ public final class TurnsTest {
 
     private void firstWrong() {
         due.promise("11 day: first wrong");
+        wrongAt(Beach.with(THREE), 0, 0, 9);
+        wrongAt(Beach.with(THREE), 0, 2, 9, 0, 8, 0, 0);
+        wrongAt(Beach.with(THREE), 1, 0, 8, 0, 0);
+        wrongAt(Beach.with(THREE), 1, 0, 8, 2, 3, 1, 9);
+        wrongAt(Beach.with(THREE), 2, 0, 8, 1, 9, 1, 9);
+        wrongAt(Beach.with(THREE), 3, 0, 8, 1, 9, 1, 0, 0, 1);
         ChairBallot x = Beach.with(THREE);
-        wrongAt(x, 0, 0, 9);
-        wrongAt(x, 0, 2, 9, 0, 8, 0, 0);
-        wrongAt(x, 1, 0, 8, 0, 0);
-        wrongAt(x, 1, 0, 8, 2, 3, 1, 9);
-        wrongAt(x, 2, 0, 8, 1, 9, 1, 9);
-        wrongAt(x, 3, 0, 8, 1, 9, 1, 0, 0, 1);
         x.rain();
         wrongAt(x, 0, 0, 0);
         wrongAt(x, 1, 10, 4, 2, 0);
