@@ -127,6 +127,7 @@ public final class LanguageTest {
                 boolean isStatic = Modifier.isStatic(field.getModifiers());
                 fields += isStatic ? 0 : 1;
                 due.isTrue(field + " is static and not final", !isStatic || Modifier.isFinal(field.getModifiers()));
+                due.isTrue(field + " is static and could change", !isStatic || field.getType().isPrimitive());
             }
             due.isTrue(type + " has some twenty fields at most", fields <= 20);
             for (Method method : type.getDeclaredMethods()) {
