@@ -1,4 +1,6 @@
 import java.io.IOException;
+import java.lang.reflect.Method;
+import java.lang.reflect.Modifier;
 import java.net.URL;
 import java.net.URLClassLoader;
 import java.nio.file.Files;
@@ -8,7 +10,6 @@ import java.util.List;
 import java.util.regex.Matcher;
 import java.util.regex.Pattern;
 import java.util.stream.Stream;
-import javax.tools.ToolProvider;
 
 /** What README.md says of answers and of tests is so. */
 public final class ReadmeTest {
@@ -20,7 +21,7 @@ public final class ReadmeTest {
     private final List<String> calls = new ArrayList<>();
     private final List<Long> answers = new ArrayList<>();
 
-    public static void main(String[] args) throws IOException, ReflectiveOperationException {
+    public static void main(String[] args) throws Exception {
         ReadmeTest test = new ReadmeTest();
         String readme = Files.readString(README);
         String example = test.exampleOf(readme);
@@ -60,11 +61,11 @@ public final class ReadmeTest {
         return "kept[" + (calls.size() - 1) + "] = " + call.group(1) + ";";
     }
 
-    private void isSo(String example, Path build) throws IOException, ReflectiveOperationException {
+    private void isSo(String example, Path build) throws Exception {
         due.promise("the example");
         Path source = Files.writeString(build.resolve("Example.java"), example);
-        int code = ToolProvider.getSystemJavaCompiler().run(null, null, null, "-d", build.toString(), "-cp",
-                System.getProperty("java.class.path"), source.toString());
+        int code = new ProcessBuilder("javac", "-d", build.toString(), "-cp", System.getProperty("java.class.path"),
+                source.toString()).inheritIO().start().waitFor();
         due.is("javac", code, 0);
         due.endIfWrong();
         try (URLClassLoader loader = new URLClassLoader(new URL[] {build.toUri().toURL()})) {
@@ -77,11 +78,11 @@ public final class ReadmeTest {
 
     private void allCallsAreShown() {
         due.promise("calls that are shown");
-        String names = "front ofChair paint poll turn gust day swing blow wards power reading back weights kinds odds "
-                + "sheet put cell tell as trace fault many";
         String shown = calls.toString();
-        for (String name : names.split(" ")) {
-            due.isTrue(name, shown.contains("x." + name + "("));
+        for (Method method : ChairBallot.class.getDeclaredMethods()) {
+            if (Modifier.isPublic(method.getModifiers())) {
+                due.isTrue(method.getName(), shown.contains("x." + method.getName() + "("));
+            }
         }
     }
 
